@@ -297,9 +297,11 @@ public final class GlobRows {
             return node;
         }
 
+        /** Makes what lacks on a path; how many nodes that were. */
         int make(Path path, boolean asFolder) {
             Node deepest = root;
             int had = 0;
+            // Beyond its end a path tells an empty name, which no node bears.
             Node next = deepest.child(path.name(0));
             while (had < path.count && next != null) {
                 deepest = next;
