@@ -1,13 +1,20 @@
 /** Compares answers with those that are due, and ends the program accordingly. */
 final class Checks {
+    private String sentence = "";
     private int done;
     private int wrong;
+
+    /** The words of the document that the next answers are held against. */
+    void sentence(String words) {
+        sentence = words;
+    }
 
     void due(String what, Object got, Object want) {
         done++;
         if (!want.equals(got)) {
             wrong++;
-            System.out.println(what + ": answered " + got + ", due is " + want);
+            System.out.println((sentence.isEmpty() ? "" : "\"" + sentence + "\": ")
+                + what + ": answered " + got + ", due is " + want);
         }
     }
 

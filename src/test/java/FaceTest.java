@@ -34,6 +34,10 @@ public final class FaceTest {
             checks.due(inside.getName() + " is static", Modifier.isStatic(modifiers), true);
             checks.due(inside.getName() + " is hidden", Modifier.isPublic(modifiers) || Modifier.isProtected(modifiers), false);
         }
+        Set<String> shared = hiddenNames();
+        shared.retainAll(Set.of(
+            "type", "file", "folder", "remove", "pack", "query", "pattern", "place", "ask", "looked", "answer"));
+        checks.due("private methods with the name of a public one", shared, Set.of());
         checks.end("FaceTest");
     }
 
@@ -55,5 +59,20 @@ public final class FaceTest {
             }
         }
         return seen;
+    }
+
+    private static Set<String> hiddenNames() {
+        Set<String> names = new TreeSet<>();
+        for (Method method : GlobRows.class.getDeclaredMethods()) {
+            if (Modifier.isPrivate(method.getModifiers())) {
+                names.add(method.getName());
+            }
+        }
+        for (Class<?> inside : GlobRows.class.getDeclaredClasses()) {
+            for (Method method : inside.getDeclaredMethods()) {
+                names.add(method.getName());
+            }
+        }
+        return names;
     }
 }

@@ -4,12 +4,15 @@ import java.util.Random;
 public final class ModelTest {
     private static final Checks CHECKS = new Checks();
     private static final int RUNS = 6000;
+    private static final int CROWDED_RUNS = 1000;
     private static final int TEXTS = 60000;
+    private static final int ALL_TEXTS_UP_TO = 6;
     private static final String[] NAMES = {"a", "b", "ab", "a.c", "A", "_"};
     private static final String[] PIECES = {
         "**", "**", "*", "a", "b", "a*", "*b", "[ab]", "[aA_]*", "*.c", "*[.]*", "a**", "ab", "_",
     };
     private static final String SIGNS = "aab.*[]/ **/-";
+    private static final String EACH_SIGN = "a.*[]/ ";
 
     private final Random random;
     private final Driver driver = new Driver();
@@ -24,6 +27,10 @@ public final class ModelTest {
         for (int seed = 0; seed < RUNS; seed++) {
             new ModelTest(seed).run();
         }
+        for (int seed = 0; seed < CROWDED_RUNS; seed++) {
+            new ModelTest(seed).runCrowded();
+        }
+        compareAllPlaces("");
         Random random = new Random(1);
         for (int n = 0; n < TEXTS; n++) {
             comparePlaces(n % 2 == 0 ? signs(random, random.nextInt(14)) : nearlyPattern(random));
@@ -35,6 +42,13 @@ public final class ModelTest {
         Driver driver = new Driver();
         driver.pattern(0, text, false);
         CHECKS.due("place of " + text, driver.place(), Model.illAt(text.length() > 60 ? text.substring(0, 60) : text));
+    }
+
+    private static void compareAllPlaces(String beginning) {
+        comparePlaces(beginning);
+        for (int i = 0; i < EACH_SIGN.length() && beginning.length() < ALL_TEXTS_UP_TO; i++) {
+            compareAllPlaces(beginning + EACH_SIGN.charAt(i));
+        }
     }
 
     private static String signs(Random random, int length) {
@@ -96,6 +110,25 @@ public final class ModelTest {
             due("ask " + query, driver.count(query), model.ask(query));
             due("looked", driver.looked(), model.looked());
         }
+    }
+
+    // Deep paths with few that go, so that the tree is full soon and stays so.
+    private void runCrowded() {
+        newQuery();
+        while (driver.callsLeft() > 80) {
+            String path = joined(random, NAMES, 6);
+            int kind = random.nextInt(12);
+            if (kind < 5) {
+                due("file " + path, driver.file(path), model.make(path, false));
+            } else if (kind < 10) {
+                due("folder " + path, driver.folder(path), model.make(path, true));
+            } else if (kind < 11) {
+                due("remove " + path, driver.remove(path), model.remove(path));
+            } else {
+                ask();
+            }
+        }
+        ask();
     }
 
     private void newQuery() {

@@ -9,7 +9,9 @@ public final class PromisesTest {
         promise3FileLimits();
         promise4Folder();
         promise5Remove();
+        promise5RemoveAll();
         promise6Pack();
+        promise6PackDeep();
         promise7Query();
         promise8Pattern();
         promise8Fits();
@@ -82,6 +84,8 @@ public final class PromisesTest {
         due("3 a folder is there", d.file("x"), "ISE");
         due("3 a folder is there", d.file("x/y"), "ISE");
         due("3 six names", d.file("1/2/3/4/5/6"), "6");
+        due("3 six names again", d.file("1/2/3/4/5/6"), "0");
+        due("3 one more on six names", d.file("1/2/3/4/5/7"), "1");
         due("3 nothing was made by what was refused", d.remove("x/y"), "3");
 
         String[] none = {
@@ -129,6 +133,8 @@ public final class PromisesTest {
         due("4 a file is there", d.folder("b/c/d/e"), "ISE");
         due("4 a file is on the way", d.folder("b/c/d/e/f"), "ISE");
         due("4 six names", d.folder("1/2/3/4/5/6"), "6");
+        due("4 six names again", d.folder("1/2/3/4/5/6"), "0");
+        due("4 no file there", d.file("1/2/3/4/5/6"), "ISE");
         due("4 seven names", d.folder("1/2/3/4/5/6/7"), "IAE");
         due("4 no path", d.folder("a/"), "IAE");
         due("4 no path", d.folder(""), "IAE");
@@ -153,6 +159,37 @@ public final class PromisesTest {
         due("5 no path", d.remove("a//b"), "IAE");
         due("5 the tree has no path", d.remove(""), "IAE");
         due("5 the text was emptied", d.remove("a"), "1");
+    }
+
+    private static void promise5RemoveAll() {
+        Driver full = new Driver();
+        for (int i = 0; i < 54; i++) {
+            full.file("a/" + i);
+        }
+        full.file("a/b/c/d/e/f");
+        due("5 60 are there", full.file("g"), "ISE");
+        due("5 seven names", full.remove("a/b/c/d/e/f/g"), "IAE");
+        due("5 below the deepest file", full.remove("a/b/c/d/f"), "ISE");
+        due("5 the deepest", full.remove("a/b/c/d/e/f"), "1");
+        due("5 one may come", full.file("a/b/c/d/e/f"), "1");
+        due("5 all 60", full.remove("a"), "60");
+        due("5 60 may come", full.folder("a/b/c/d/e/f"), "6");
+        due("5 a package", full.pack("a/b", true), "0");
+        due("5 goes likewise", full.remove("a"), "6");
+        due("5 and is gone", full.remove("a"), "ISE");
+    }
+
+    private static void promise6PackDeep() {
+        Driver d = new Driver();
+        d.folder("1/2/3/4/5/6");
+        due("6 six names", d.pack("1/2/3/4/5/6", true), "0");
+        due("6 it is so", d.pack("1/2/3/4/5/6", true), "ISE");
+        due("6 seven names", d.pack("1/2/3/4/5/6/7", true), "IAE");
+        due("6 those above are none", d.pack("1/2/3/4/5", false), "ISE");
+        due("6 none again", d.pack("1/2/3/4/5/6", false), "0");
+        d.pack("1", true);
+        due("6 again what is there", d.folder("1"), "0");
+        due("6 leaves it one", d.pack("1", true), "ISE");
     }
 
     private static void promise6Pack() {
