@@ -609,6 +609,9 @@ public final class GlobRows {
 
         /** Looks at a folder; whether it must be counted. */
         boolean looksAnewAt(Node folder) {
+            if (number < 0 || number >= folder.seen.length) {
+                return true;
+            }
             boolean anew = folder.seen[number] != round - 1;
             folder.seen[number] = round;
             return anew;
